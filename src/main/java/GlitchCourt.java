@@ -693,6 +693,13 @@ public final class GlitchCourt {
             return Integer.bitCount(cones[net]);
         }
 
+        /** The rows are used again: an input can stand where a gate of a former text has left its cone. */
+        void clear() {
+            inputs = 0;
+            gates = 0;
+            Arrays.fill(cones, 0);
+        }
+
         void addGate(int kind, int firstNet, int secondNet) {
             int net = nets();
             kinds[net] = kind;
@@ -888,8 +895,7 @@ public final class GlitchCourt {
         final int[] paths = new int[MAX_NETS];
 
         void clear() {
-            circuit.inputs = 0;
-            circuit.gates = 0;
+            circuit.clear();
             state.clear();
         }
 
