@@ -105,6 +105,12 @@ public final class PromiseTest {
         Due.equal("2 still full", x.feed(1, 2, 3, 4, 5), NONE);
         Due.equal("2 too much", Due.answer(() -> x.load(601)), ILLEGAL);
         Due.equal("2 all of it", x.load(600), -11);
+        for (int i = 0; i < 30; i++) {
+            x.feed(0x61616161, 0x61616161, 0x61616161, 0x61616161, 0x61616161);
+        }
+        Due.equal("2 one word of 600 letters", x.load(600), -11);
+        Due.feed(x, "bench 4 1 1 1;input 0" + " ".repeat(570) + "000000009");
+        Due.equal("2 a number up to the end", x.load(600), -12);
         Due.equal("2 empty again", x.feed(1, 2, 3, 4, 5), 20);
         // The bytes arrive in their order, and those above 127 are no letters.
         GlitchCourt y = new GlitchCourt();
@@ -1155,6 +1161,10 @@ public final class PromiseTest {
         x.format(0, 0);
         Due.equal("39 a shorter text", x.formattedByte(5), NONE);
         Due.equal("39 its end", x.formattedByte(4), (int) '1');
+        GlitchCourt y = Due.court("bench 60 1 1 1;input 0 60;");
+        Due.equal("38 the longest text", y.format(0, 0), 61);
+        Due.equal("39 its last byte", y.formattedByte(60), (int) '1');
+        Due.equal("39 behind it", y.formattedByte(61), NONE);
     }
 
     private static void undoCount() {
@@ -1292,6 +1302,10 @@ public final class PromiseTest {
         // Only the first bytes are read, and the buffer is empty then.
         Due.feed(x, "many net<2 or net=2 ");
         Due.equal("44 first bytes", x.query(10), 2);
+        Due.feed(x, "many net<2222");
+        Due.equal("44 a number that is cut off", x.query(10), 2);
+        Due.feed(x, "many 1=lastlast");
+        Due.equal("44 a word that is cut off", x.query(11), 2);
         Due.equal("44 empty", Due.answer(() -> x.query(1)), ILLEGAL);
         Due.feed(x, " ".repeat(220));
         Due.equal("44 length 201", Due.answer(() -> x.query(201)), ILLEGAL);
