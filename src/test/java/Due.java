@@ -25,6 +25,19 @@ final class Due {
         }
     }
 
+    static void noSuch(String what, Callable<?> call) {
+        equal(what, answer(call), "throws.NoSuchElementException");
+    }
+
+    static void illegal(String what, Callable<?> call) {
+        equal(what, answer(call), "throws.IllegalArgumentException");
+    }
+
+    /** What is just outside of a range on both sides, and far off. */
+    static int[] outside(int least, int most) {
+        return new int[] {least - 1, most + 1, Integer.MIN_VALUE, Integer.MAX_VALUE};
+    }
+
     static int wrongSoFar() {
         return wrong;
     }
@@ -71,6 +84,17 @@ final class Due {
             text.append((char) court.formattedByte(i));
         }
         return text.toString();
+    }
+
+    /** A wave that is 1 from the first to the second time, from the third to the fourth and so on. */
+    static long bits(int... runs) {
+        long sum = 0;
+        for (int i = 0; i < runs.length; i += 2) {
+            for (int t = runs[i]; t <= runs[i + 1]; t++) {
+                sum += 1L << t;
+            }
+        }
+        return sum;
     }
 
     static void close(String name) {

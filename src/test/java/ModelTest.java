@@ -30,7 +30,8 @@ public final class ModelTest {
     }
 
     private void play() {
-        int length = 40 + random.nextInt(440);
+        // With what comes last it stays within the 512 calls of an object.
+        int length = 40 + random.nextInt(380);
         if (random.nextInt(20) != 0) {
             feedAndLoad(false);
         }
@@ -76,20 +77,20 @@ public final class ModelTest {
     }
 
     private int net() {
-        return near(0, court.size(0) + court.size(1) - 1);
+        return near(0, plain.size(0) + plain.size(1) - 1);
     }
 
     private int gate() {
-        return court.size(1) == 0 || random.nextInt(30) == 0 ? net() : court.size(0) + random.nextInt(court.size(1));
+        return plain.size(1) == 0 || random.nextInt(30) == 0 ? net() : plain.size(0) + random.nextInt(plain.size(1));
     }
 
     private int time() {
-        return near(0, court.size(2));
+        return near(0, plain.size(2));
     }
 
     private void operate() {
         int g = gate();
-        int d = near(0, court.size(6) - 1);
+        int d = near(0, plain.size(6) - 1);
         switch (random.nextInt(12)) {
             case 0: case 1: case 2: {
                 int party = near(0, 1);
@@ -99,17 +100,17 @@ public final class ModelTest {
                 break;
             }
             case 3: case 4: {
-                int last = random.nextInt(4) == 0 ? d : court.size(6) - 1;
+                int last = random.nextInt(4) == 0 ? d : plain.size(6) - 1;
                 check("judge " + last, () -> court.judge(last), () -> plain.judge(last));
                 break;
             }
             case 5: {
-                int last = random.nextInt(3) == 0 ? d : court.size(6) - 1;
+                int last = random.nextInt(3) == 0 ? d : plain.size(6) - 1;
                 check("appeal " + last, () -> court.appeal(last), () -> plain.appeal(last));
                 break;
             }
             case 6: {
-                int last = random.nextInt(3) == 0 ? d : court.size(6) - 1;
+                int last = random.nextInt(3) == 0 ? d : plain.size(6) - 1;
                 check("accept " + last, () -> court.accept(last), () -> plain.accept(last));
                 break;
             }
@@ -129,7 +130,7 @@ public final class ModelTest {
                 break;
             }
             case 9: {
-                int input = near(0, court.size(0) - 1);
+                int input = near(0, plain.size(0) - 1);
                 int t = time();
                 if (random.nextInt(3) != 0) {
                     break;
@@ -158,7 +159,7 @@ public final class ModelTest {
         int to = random.nextInt(3) == 0 ? time() : Math.min(t, 60) + random.nextInt(8);
         int k = near(0, 2);
         int what = near(0, 9);
-        int d = near(0, court.size(6) - 1);
+        int d = near(0, plain.size(6) - 1);
         switch (draw) {
             case 0: check("errorPosition", court::errorPosition, plain::errorPosition); break;
             case 1: check("size", () -> court.size(what), () -> plain.size(what)); break;
@@ -205,7 +206,7 @@ public final class ModelTest {
     }
 
     private void everyWave(int kind) {
-        for (int net = 0; net < court.size(0) + court.size(1); net++) {
+        for (int net = 0; net < plain.size(0) + plain.size(1); net++) {
             int n = net;
             check("wave " + n + " " + kind, () -> court.wave(n, kind), () -> plain.wave(n, kind));
         }

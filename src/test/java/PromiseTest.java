@@ -203,7 +203,7 @@ public final class PromiseTest {
         Due.equal("3 as before", Due.load(x, SLOW), 3);
         Due.equal("3 nothing settled any more", x.gate(1, 7), 0);
         Due.equal("3 nothing ruled any more", x.gate(1, 8), 0);
-        Due.equal("3 shown as at first", x.wave(1, 0), bits(3, 4, 7, 20));
+        Due.equal("3 shown as at first", x.wave(1, 0), Due.bits(3, 4, 7, 20));
         Due.equal("3 no disputes any more", x.size(6), 0);
         // Nets 1 to 3 were gates and are inputs now.
         Due.load(x, "bench 9 1 1 1;input 0 2;gate same 0 1 1 1;gate same 1 9 9 9;gate same 2 1 1 1;");
@@ -421,27 +421,17 @@ public final class PromiseTest {
         Due.equal("8 time 21", Due.answer(() -> x.stateAt(0, 21)), NO_SUCH);
     }
 
-    private static long bits(int... runs) {
-        long sum = 0;
-        for (int i = 0; i < runs.length; i += 2) {
-            for (int t = runs[i]; t <= runs[i + 1]; t++) {
-                sum += 1L << t;
-            }
-        }
-        return sum;
-    }
-
     private static void wave() {
         GlitchCourt x = lamp();
-        long input = bits(2, 3, 10, 20);
+        long input = Due.bits(2, 3, 10, 20);
         for (int kind = 0; kind < 3; kind++) {
             Due.equal("9 input " + kind, x.wave(0, kind), input);
         }
-        Due.equal("9 shown 1", x.wave(1, 0), bits(3, 4, 11, 20));
-        Due.equal("9 cheap 1", x.wave(1, 1), bits(3, 4, 11, 20));
-        Due.equal("9 dear 1", x.wave(1, 2), bits(13, 20));
-        Due.equal("9 shown 2", x.wave(2, 0), bits(0, 4, 7, 12));
-        Due.equal("9 dear 2", x.wave(2, 2), bits(0, 13));
+        Due.equal("9 shown 1", x.wave(1, 0), Due.bits(3, 4, 11, 20));
+        Due.equal("9 cheap 1", x.wave(1, 1), Due.bits(3, 4, 11, 20));
+        Due.equal("9 dear 1", x.wave(1, 2), Due.bits(13, 20));
+        Due.equal("9 shown 2", x.wave(2, 0), Due.bits(0, 4, 7, 12));
+        Due.equal("9 dear 2", x.wave(2, 2), Due.bits(0, 13));
         Due.equal("9 horizon 60", Due.court("bench 60 1 1 1;input 0 60;").wave(0, 0), 1L << 60);
         Due.equal("9 net -1", Due.answer(() -> x.wave(-1, 0)), NO_SUCH);
         Due.equal("9 net 3", Due.answer(() -> x.wave(3, 0)), NO_SUCH);
@@ -938,8 +928,8 @@ public final class PromiseTest {
         Due.equal("32 not judged", x.accept(0), -2);
         x.judge(0);
         Due.equal("32 newly ruled", x.accept(0), 2);
-        Due.equal("32 swallowed: the opposite value", x.wave(1, 0), bits(11, 20));
-        Due.equal("32 net 2 follows", x.wave(2, 0), bits(0, 12));
+        Due.equal("32 swallowed: the opposite value", x.wave(1, 0), Due.bits(11, 20));
+        Due.equal("32 net 2 follows", x.wave(2, 0), Due.bits(0, 12));
         Due.equal("32 state", x.dispute(0, 6), 3);
         Due.equal("32 twice", x.accept(0), -2);
         Due.equal("32 number -1", Due.answer(() -> x.accept(-1)), NO_SUCH);
@@ -948,12 +938,12 @@ public final class PromiseTest {
         y.open(0, 2, 0, true);
         y.judge(0);
         Due.equal("32 real", y.accept(0), 2);
-        Due.equal("32 the value of the dispute", y.wave(2, 0), bits(0, 4, 7, 12));
+        Due.equal("32 the value of the dispute", y.wave(2, 0), Due.bits(0, 4, 7, 12));
         Due.equal("32 ruled", y.gate(2, 8), 2);
         Due.equal("32 no pulse any more", y.gate(2, 9), 0);
         // It stays ruled when net 1 is settled in such a way that net 2 would not have the pulse.
         y.replay(1, 3, 4);
-        Due.equal("32 the ruled value stays", y.wave(2, 0), bits(0, 4, 7, 12));
+        Due.equal("32 the ruled value stays", y.wave(2, 0), Due.bits(0, 4, 7, 12));
         GlitchCourt z = Due.court(LOST);
         z.open(0, 1, 0, true);
         z.judge(0);
@@ -970,21 +960,21 @@ public final class PromiseTest {
         x.open(0, 1, 1, true);
         Due.equal("32 swallowed", x.judge(0), 0);
         Due.equal("32 one time", x.accept(0), 1);
-        Due.equal("32 filled", x.wave(1, 0), bits(3, 7));
+        Due.equal("32 filled", x.wave(1, 0), Due.bits(3, 7));
         x.open(0, 1, 0, true);
         x.judge(1);
         Due.equal("32 four more", x.accept(1), 4);
         Due.equal("32 in place of what it was ruled", x.wave(1, 0), 0L);
         Due.equal("32 five ruled", x.gate(1, 8), 5);
         x.undo();
-        Due.equal("32 undone", x.wave(1, 0), bits(3, 7));
+        Due.equal("32 undone", x.wave(1, 0), Due.bits(3, 7));
     }
 
     private static void replay() {
         GlitchCourt x = lamp();
         Due.equal("33 newly settled", x.replay(1, 3, 4), 2);
         Due.equal("33 paid", x.size(9), 3);
-        Due.equal("33 shown", x.wave(1, 0), bits(11, 20));
+        Due.equal("33 shown", x.wave(1, 0), Due.bits(11, 20));
         Due.equal("33 one more", x.replay(1, 4, 4), 0);
         Due.equal("33 paid again", x.size(9), 1);
         Due.equal("33 less than the cost", x.replay(1, 5, 5), -3);
@@ -1017,11 +1007,11 @@ public final class PromiseTest {
         Due.equal("34 its dispute is", x.dispute(1, 6), 4);
         Due.equal("34 new delay", x.gate(2, 4), 9);
         Due.equal("34 cheap delay", x.setDelay(1, 2, 9), 1);
-        Due.equal("34 cheap wave", x.wave(1, 1), bits(11, 12, 19, 20));
+        Due.equal("34 cheap wave", x.wave(1, 1), Due.bits(11, 12, 19, 20));
         Due.equal("34 settled no more", x.gate(1, 7), 0);
         Due.equal("34 dropped", x.dispute(0, 6), 4);
         Due.equal("34 rise", x.setDelay(1, 0, 1), 3);
-        Due.equal("34 dear wave", x.wave(1, 2), bits(3, 5, 11, 20));
+        Due.equal("34 dear wave", x.wave(1, 2), Due.bits(3, 5, 11, 20));
         for (int bad : new int[] {-1, 3, LOW, HIGH}) {
             Due.equal("34 which " + bad, Due.answer(() -> x.setDelay(1, bad, 1)), ILLEGAL);
         }
@@ -1038,7 +1028,7 @@ public final class PromiseTest {
         y.accept(0);
         y.setDelay(1, 1, 9);
         Due.equal("34 ruled no more", y.gate(1, 8), 0);
-        Due.equal("34 shown again", y.wave(1, 0), bits(3, 4, 11, 20));
+        Due.equal("34 shown again", y.wave(1, 0), Due.bits(3, 4, 11, 20));
         Due.equal("34 accepted", y.dispute(0, 6), 3);
     }
 
@@ -1052,11 +1042,11 @@ public final class PromiseTest {
         Due.equal("35 net 2 is not touched", x.gate(2, 7), 1);
         Due.equal("35 wave", x.wave(1, 0), 1L << 20);
         Due.equal("35 two are dropped", x.toggle(0, 4), 2);
-        Due.equal("35 from then on", x.wave(0, 0), bits(2, 9));
+        Due.equal("35 from then on", x.wave(0, 0), Due.bits(2, 9));
         Due.equal("35 no settled times", x.gate(2, 7), 0);
         Due.equal("35 dropped", x.disputes(4), 2);
         Due.equal("35 from 0", x.toggle(0, 0), 0);
-        Due.equal("35 all of it", x.wave(0, 2), bits(0, 1, 10, 20));
+        Due.equal("35 all of it", x.wave(0, 2), Due.bits(0, 1, 10, 20));
         Due.equal("35 time -1", Due.answer(() -> x.toggle(0, -1)), ILLEGAL);
         Due.equal("35 time 21", Due.answer(() -> x.toggle(0, 21)), ILLEGAL);
         for (int input : new int[] {-1, 2, LOW, HIGH}) {
@@ -1065,7 +1055,7 @@ public final class PromiseTest {
         Due.equal("35 recorded", x.undoCount(), 6);
         x.undo();
         x.undo();
-        Due.equal("35 undone", x.wave(0, 0), bits(2, 3, 10, 20));
+        Due.equal("35 undone", x.wave(0, 0), Due.bits(2, 3, 10, 20));
         Due.equal("35 open again", x.disputes(0), 2);
         Due.equal("35 settled again", x.gate(2, 7), 1);
     }
@@ -1207,7 +1197,7 @@ public final class PromiseTest {
         x.undo();
         Due.equal("41 judged again", x.dispute(0, 6), 1);
         Due.equal("41 not settled", x.gate(1, 7), 0);
-        Due.equal("41 waves", x.wave(1, 0), bits(3, 4, 11, 20));
+        Due.equal("41 waves", x.wave(1, 0), Due.bits(3, 4, 11, 20));
         x.undo();
         Due.equal("41 open again", x.dispute(0, 6), 0);
         Due.equal("41 the fee is back", x.size(7), 53);
@@ -1232,7 +1222,7 @@ public final class PromiseTest {
         Due.equal("43 history is cleared", x.undo(), NONE);
         Due.equal("43 limit", x.size(3), 4);
         Due.equal("43 delay", x.gate(1, 5), 1);
-        Due.equal("43 input", x.wave(0, 0), bits(2, 3, 10, 20));
+        Due.equal("43 input", x.wave(0, 0), Due.bits(2, 3, 10, 20));
         Due.equal("43 settled", x.gate(1, 7), 0);
         Due.equal("43 disputes", x.size(6), 0);
         Due.equal("43 purse", x.size(7), 51);
