@@ -86,6 +86,15 @@ final class Due {
         return text.toString();
     }
 
+    /** The first tokens of a text, a blank behind each. */
+    static String joined(String[] tokens, int count) {
+        StringBuilder text = new StringBuilder();
+        for (int i = 0; i < count; i++) {
+            text.append(tokens[i]).append(' ');
+        }
+        return text.toString();
+    }
+
     /** A wave that is 1 from the first to the second time, from the third to the fourth and so on. */
     static long bits(int... runs) {
         long sum = 0;

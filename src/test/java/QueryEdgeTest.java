@@ -272,11 +272,7 @@ public final class QueryEdgeTest {
         "and", "9", ">", "last", ")", "or", "cone", "=", "wrong"};
 
     private static String firstTokens(int count) {
-        StringBuilder text = new StringBuilder();
-        for (int i = 0; i < count; i++) {
-            text.append(TOKENS[i]).append(' ');
-        }
-        return text.toString();
+        return Due.joined(TOKENS, count);
     }
 
     private static void endsTooEarly() {

@@ -405,11 +405,7 @@ public final class TextEdgeTest {
         "3", ";"};
 
     private static String firstTokens(int count) {
-        StringBuilder text = new StringBuilder();
-        for (int i = 0; i < count; i++) {
-            text.append(TOKENS[i]).append(' ');
-        }
-        return text.toString();
+        return Due.joined(TOKENS, count);
     }
 
     /** Cut off behind each token: the text is whole behind an input, a gate and the purses alone. */
