@@ -196,6 +196,27 @@ public final class CourtEdgeTest {
         Due.equal("20 the greatest stake", y.pulse(12, 0, 3), 9 * 20 * 12);
         y.open(0, 12, 0, false);
         Due.equal("21 the greatest stake", y.dispute(0, 9), 9 * 20 * 12);
+        stakesStay();
+    }
+
+    /** The stake is that of the window, whatever becomes of the pulse and of the dispute. */
+    private static void stakesStay() {
+        GlitchCourt x = court(TWO + "purses 99 99 99;");
+        x.open(0, 2, 0, true);
+        Due.equal("21 open", x.dispute(0, 9), 8);
+        x.replay(2, 4, 4);
+        Due.equal("20 of what is left of the pulse", x.pulse(2, 0, 3), 4);
+        Due.equal("21 one time of it settled", x.dispute(0, 9), 8);
+        x.judge(0);
+        Due.equal("21 judged", x.dispute(0, 9), 8);
+        x.accept(0);
+        Due.equal("21 accepted", x.dispute(0, 9), 8);
+        x.undo();
+        x.appeal(0);
+        Due.equal("21 appealed", x.dispute(0, 9), 8);
+        x.undo();
+        x.toggle(0, 0);
+        Due.equal("21 dropped", x.dispute(0, 9), 8);
     }
 
     // Section 3: judging
@@ -472,12 +493,16 @@ public final class CourtEdgeTest {
                 + "gate same 0 " + gate[1] + " " + gate[0] + " " + gate[2] + ";";
     }
 
-    /** The dear wave has the value at the first time of the window alone, just before it, at the last alone, behind. */
+    /**
+     * The dear wave has the value at the first time of the window alone, just before it, at the last alone, behind,
+     * and in the midst of it alone.
+     */
     private static void appealWindows() {
         appealed("bench 20 9 0 0;input 0 2 4;gate same 0 1 1 2;", 4, 5, 1, 1);
         appealed("bench 20 9 0 0;input 0 2 4;gate same 0 1 1 3;", 5, 6, 1, 0);
         appealed("bench 20 9 0 0;input 0 2 4 6;gate same 0 2 9 5;", 7, 8, 0, 1);
         appealed("bench 20 9 0 0;input 0 2 4 7;gate same 0 2 9 5;", 7, 8, 0, 0);
+        appealed("bench 20 9 0 0;input 0 2 6;gate same 0 3 1 2;", 4, 7, 1, 1);
     }
 
     private static void appealed(String text, int first, int last, int cheap, int dear) {
@@ -690,6 +715,24 @@ public final class CourtEdgeTest {
         Due.equal("24 the rest", x.gain(1, 3, 4), 2);
         GlitchCourt y = court("bench 20 4 1 1;input 0 10;gate same 0 3 3 1;" + "gate same 1 1 1 3;".repeat(2));
         Due.equal("24 less than nothing", y.gain(1, 11, 12), 2 - 4);
+        gainsOfRuled();
+    }
+
+    /** What is ruled rightly gains nothing, what is ruled wrongly gains as if it were not ruled. */
+    private static void gainsOfRuled() {
+        GlitchCourt right = court(THREE);
+        right.open(0, 1, 0, true);
+        right.judge(0);
+        right.accept(0);
+        Due.equal("24 ruled to 0, and dear 0", right.gain(1, 3, 5), 0);
+        Due.equal("24 and what is not ruled", right.gain(1, 3, 9), 2);
+        GlitchCourt wrong = joined(0);
+        Due.equal("24 ruled to 1, and dear 0", wrong.gain(1, 6, 7), 2);
+        Due.equal("24 nothing is settled by that", wrong.gate(1, 7), 0);
+        Due.equal("24 it stays ruled", wrong.gate(1, 8), 2);
+        Due.equal("33 settled", wrong.replay(1, 6, 7), 2);
+        Due.equal("24 settled before ruled", wrong.gain(1, 6, 7), 0);
+        Due.equal("24 settled in part", wrong.gain(1, 5, 7), 1);
     }
 
     /** A cost as great as the court's purse is taken, a greater one is not. */
@@ -1046,5 +1089,22 @@ public final class CourtEdgeTest {
         Due.equal("5 the least", x.size(3), 1);
         Due.equal("37 the same", x.setLimit(1), 1);
         Due.equal("37 recorded, each", x.undoCount(), 3);
+        limitLeavesDisputes();
+    }
+
+    /** A dispute goes on though its window is longer than the limit by now. */
+    private static void limitLeavesDisputes() {
+        GlitchCourt x = court(THREE);
+        x.open(0, 1, 0, true);
+        x.open(1, 1, 1, true);
+        x.judge(1);
+        x.setLimit(1);
+        Due.equal("6 no pulse", x.gate(1, 9), 0);
+        Due.equal("22 still open", x.disputes(0), 1);
+        Due.equal("22 still judged", x.disputes(1), 1);
+        Due.equal("30 judged by its window", x.judge(0), 0);
+        Due.equal("32 accepted with its window", x.accept(0), 3);
+        Due.equal("31 appealed with its window", x.appeal(1), 1);
+        Due.equal("6 settled", x.gate(1, 7), 2);
     }
 }

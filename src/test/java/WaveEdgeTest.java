@@ -31,6 +31,7 @@ public final class WaveEdgeTest {
         dearByDear();
         cheapDelays();
         shownByShown();
+        twoNetsOfEachClass();
         settledAndRuled();
         bitsOfWaves();
         changes();
@@ -277,6 +278,25 @@ public final class WaveEdgeTest {
         Due.equal("9 two later", x.wave(3, 0), Due.bits(0, 4, 6, 6, 8, 30));
         Due.equal("9 cheap as before", x.wave(2, 1), Due.bits(4, 6));
         Due.equal("9 dear as before", x.wave(2, 2), 0L);
+    }
+
+    /** A gate of two gates takes the waves of both in the class of its own wave. */
+    private static void twoNetsOfEachClass() {
+        String text = "bench 20 9 0 0;input 0 2 5;gate same 0 9 9 1;gate not 0 9 9 2;";
+        for (String nets : new String[] {"1 2", "2 1"}) {
+            GlitchCourt x = court(text + "gate xor " + nets + " 1 1 1;");
+            Due.equal("9 cheap net 1", x.wave(1, 1), Due.bits(3, 5));
+            Due.equal("9 cheap net 2", x.wave(2, 1), Due.bits(0, 3, 7, 20));
+            Due.equal("9 cheap of " + nets, x.wave(3, 1), Due.bits(0, 3, 5, 6, 8, 20));
+            Due.equal("9 dear net 1", x.wave(1, 2), 0L);
+            Due.equal("9 dear net 2", x.wave(2, 2), Due.bits(0, 20));
+            Due.equal("9 dear of " + nets, x.wave(3, 2), Due.bits(0, 20));
+            x.replay(1, 3, 3);
+            Due.equal("9 shown of " + nets, x.wave(3, 0), Due.bits(0, 6, 8, 20));
+            x.replay(2, 6, 6);
+            Due.equal("9 shown of both", x.wave(3, 0), Due.bits(0, 20));
+            Due.equal("9 cheap as before", x.wave(3, 1), Due.bits(0, 3, 5, 6, 8, 20));
+        }
     }
 
     private static void settledAndRuled() {
