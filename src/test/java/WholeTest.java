@@ -65,7 +65,7 @@ public final class WholeTest {
 
     private static void cheapWhateverTheGates() {
         String inputs = "bench 60 1 1 1;input 0 3 4 9 20 28;input 1 2 7 8 9 30 55;";
-        String[] kinds = {"and 0 1", "or 1 2", "xor 2 3", "nand 4 0", "nor 5 1", "not 6", "same 7", "xor 8 4"};
+        String[] kinds = {"same 0", "or 1 2", "xor 2 3", "nand 4 0", "nor 5 1", "not 6", "and 4 7", "same 8"};
         StringBuilder text = new StringBuilder(inputs);
         for (int i = 0; i < kinds.length; i++) {
             text.append("gate ").append(kinds[i]).append(" 4 3 ").append(1 + i).append(';');
